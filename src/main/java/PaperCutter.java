@@ -34,6 +34,8 @@ public final class PaperCutter {
     private static final int[] LOWEST_SETTING = {2, 0, 10};
     private static final int[] HIGHEST_SETTING = {7, 20, 99};
 
+    // Above every number of strips, and every sum of setups of seven runs.
+    private static final int TOO_MANY = 1000;
     private static final int GRADE_CHANGE = 5;
     private static final int WRONG_TEXT = -1000;
     private static final int STRIPS_OF = 10;
@@ -1191,8 +1193,6 @@ public final class PaperCutter {
 
     /** Searches the patterns for one roll, which Plan.describe tells it. */
     private static final class Search {
-        private static final int TOO_MANY = 1000;
-
         private int width;
         private int knives;
         private int leastRest;
@@ -1312,7 +1312,7 @@ public final class PaperCutter {
         }
 
         private void seekLeast() {
-            leastSum = Integer.MAX_VALUE;
+            leastSum = TOO_MANY;
             trySequences(this, 0, 0, 0);
         }
 
@@ -1363,7 +1363,7 @@ public final class PaperCutter {
 
         /** The least sum for a set of runs, with one more run behind them unless that is -1. */
         private int leastOf(int set, int next) {
-            int lowest = Integer.MAX_VALUE;
+            int lowest = TOO_MANY;
             for (int last = 0; last < runCount; last++) {
                 if ((set & (1 << last)) != 0) {
                     int behind = next < 0 ? 0 : setups[last + 1][next];

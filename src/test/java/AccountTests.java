@@ -69,7 +69,8 @@ final class AccountTests {
         Checks.run(x, "1x0+1x2", 0, 10);
         Checks.run(x, "1x1+1x2", 1, 10);
         Checks.run(x, "1x1", 2, 20);
-        int[][] dues = {{1, 1, 0, 0, 100, 500}, {1, 1, 1, 4000, 900 + 400, 500}, {1, 1, 0, 0, 0, 0}, {0, 0, 0, 0, 0, 0}};
+        int[][] dues = {{1, 1, 0, 0, 100, 500}, {1, 1, 1, 4000, 900 + 400, 500}, {1, 1, 0, 0, 0, 0},
+            {0, 0, 0, 0, 0, 0}};
         for (int grade = 0; grade < 4; grade++) {
             for (int what = 0; what < 6; what++) {
                 c.due("29: grade(" + grade + ", " + what + ")", x.grade(grade, what), dues[grade][what]);

@@ -51,7 +51,7 @@ final class Checks {
 
     static String written(PaperCutter x) {
         StringBuilder signs = new StringBuilder();
-        for (int k = 0; x.written(k) != PaperCutter.NONE; k++) {
+        for (int k = 0; k < 99 && x.written(k) != PaperCutter.NONE; k++) {
             signs.append((char) x.written(k));
         }
         return signs.toString();
@@ -59,7 +59,7 @@ final class Checks {
 
     static String positions(PaperCutter x, int run) {
         StringBuilder places = new StringBuilder();
-        for (int k = 0; x.position(run, k) != PaperCutter.NONE; k++) {
+        for (int k = 0; k < 99 && x.position(run, k) != PaperCutter.NONE; k++) {
             places.append(x.position(run, k)).append(' ');
         }
         return places.toString().trim();

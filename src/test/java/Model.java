@@ -428,7 +428,7 @@ final class Model {
             return fault;
         }
         int start = fault;
-        while (start > 0 && Character.isLetter(text.charAt(start - 1)) && Character.isLowerCase(text.charAt(start - 1))) {
+        while (start > 0 && text.charAt(start - 1) >= 'a' && text.charAt(start - 1) <= 'z') {
             start--;
         }
         int end = start;

@@ -174,7 +174,8 @@ final class PatternTests {
         c.due("10: too wide", x.best(0, 0), -5);
         c.due("11: too wide", x.again(0), -5);
         c.due("12: too wide", x.patterns(0), 0);
-        c.due("10: no what ahead of nothing", x.best(0, 11), -2);
+        c.due("10: no order ahead of nothing", x.best(0, 11), -2);
+        c.due("10: no what ahead of nothing", x.best(0, 4), -2);
         x.addOrder(0, 54, 9, 0, 0, 0);
         c.due("10: just fits", x.best(0, 0), 6);
         x.cut(0);

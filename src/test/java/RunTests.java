@@ -304,7 +304,7 @@ final class RunTests {
         c.due("21: keep", x.keep(2), 3);
         c.due("21: wrong ahead of kept", x.split(2, 20), -2);
         c.due("21: kept", x.split(2, 19), -4);
-        while (x.account(7) < 16) {
+        for (int runs = 3; runs < 16; runs++) {
             Checks.run(x, "1x1", 1, 2);
         }
         c.due("21: kept ahead of full", x.split(2, 1), -4);
@@ -439,7 +439,7 @@ final class RunTests {
         c.due("26: a remnant can be cut", Checks.run(x, "1x0", 3, 2), 2);
         x.addOrder(1, 10, 100, 0, 0, 0);
         c.due("26: another run", Checks.run(x, "1x0", 3, 1), 3);
-        while (x.account(8) < 12) {
+        for (int rolls = 5; rolls < 12; rolls++) {
             x.addRoll(0, 50, 1);
         }
         c.due("26: refused ahead of full", x.keep(0), -4);
