@@ -46,8 +46,8 @@ final class TextTests {
         x.addRoll(0, 100, 1);
         String[] texts = {"", ";", "Cut 0", " cut 0", "cut", "cut ", "cut  0", "cut 0 ", "cut 0;", "cut 0;;",
             "cut 0000", "cut a", "cut0", "cutt 0", "cu", "ordr 1", "c", "all;al", "all 1", "alls", "allz", "allS",
-            "arrange", "arrange 1 1", "roll 0 100", "roll 0 100 10 1", "roll 0 100 1000", "order 0 10 1 0 0 ", "order 0 10 1 0 0 b",
-            "order 0 10 1 0 0 bett", "order 0 10 1 0 0 betters", "order 0 10 1 0 0 better ",
+            "arrange", "arrange 1 1", "roll 0 100", "roll 0 100 10 1", "roll 0 100 1000", "order 0 10 1 0 0 ",
+            "order 0 10 1 0 0 b", "order 0 10 1 0 0 bett", "order 0 10 1 0 0 betters", "order 0 10 1 0 0 better ",
             "order 0 10 1 0 0 better1", "order 0 10 1 0 0 cut", "order 0 10 1 0 better", "order 0 10 1 0 0 1",
             "better", "order 0 10 1 0 0better", "roll 0 100 1 better", "cut 9;cut x", "order 0 10 1 0 0  better",
             "cut -1", "all,all", "order 0 10 1 0 0 Better"};
