@@ -1,4 +1,7 @@
-/** Runs every test of the project; takes the path of the class's source and, if wanted, the number of long runs. */
+import java.nio.file.Files;
+import java.nio.file.Path;
+
+/** Runs every test; takes the paths of the class's source and of the document, and the number of long runs. */
 public final class AllTests {
     public static void main(String[] args) throws Exception {
         Checks checks = new Checks();
@@ -8,9 +11,20 @@ public final class AllTests {
         RunTests.all(checks);
         AccountTests.all(checks);
         TextTests.all(checks);
-        ModelTests.all(checks, args.length > 1 ? Integer.parseInt(args[1]) : 500);
+        Sentences sentences = new Sentences();
+        Edges.all(checks, sentences);
+        compare(checks, sentences, Path.of(args[1]));
+        ModelTests.all(checks, args.length > 2 ? Integer.parseInt(args[2]) : 500);
         if (!checks.report()) {
             System.exit(1);
+        }
+    }
+
+    private static void compare(Checks checks, Sentences sentences, Path document) throws Exception {
+        if (Files.exists(document)) {
+            sentences.compare(checks, Files.readString(document));
+        } else {
+            System.out.println("there is no " + document + " to compare the tests' sentences with");
         }
     }
 }

@@ -18,6 +18,21 @@ final class Checks {
         due(what, it ? 1 : 0, 1);
     }
 
+    void same(String what, String got, String want) {
+        if (got.equals(want)) {
+            passed++;
+            return;
+        }
+        failed++;
+        if (failed <= 50) {
+            System.out.println(what + " answered \"" + got + "\", due is \"" + want + "\"");
+        }
+    }
+
+    int count() {
+        return passed + failed;
+    }
+
     boolean report() {
         System.out.println(passed + " passed, " + failed + " failed");
         return failed == 0;

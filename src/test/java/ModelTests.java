@@ -27,7 +27,7 @@ final class ModelTests {
         if (seed % 4 != 0) {
             stock();
         }
-        while (calls < 400) {
+        while (calls < 350) {
             call();
         }
         look();

@@ -42,8 +42,6 @@ final class TextTests {
     }
 
     private void executeFaults() {
-        PaperCutter x = new PaperCutter();
-        x.addRoll(0, 100, 1);
         String[] texts = {"", ";", "Cut 0", " cut 0", "cut", "cut ", "cut  0", "cut 0 ", "cut 0;", "cut 0;;",
             "cut 0000", "cut a", "cut0", "cutt 0", "cu", "ordr 1", "c", "all;al", "all 1", "alls", "allz", "allS",
             "arrange", "arrange 1 1", "roll 0 100", "roll 0 100 10 1", "roll 0 100 1000", "order 0 10 1 0 0 ",
@@ -59,11 +57,13 @@ final class TextTests {
             0, 16, 12, 10, 17,
             4, 3, 17};
         for (int i = 0; i < texts.length; i++) {
+            PaperCutter x = new PaperCutter();
+            x.addRoll(0, 100, 1);
             c.due("30: \"" + texts[i] + "\"", Checks.execute(x, texts[i]), -1000 - faults[i]);
             c.due("30: text is empty", x.count(1), 0);
+            c.due("30: nothing was carried out", x.count(0), 1);
+            c.due("31: a wrong text has no reason", x.reason(0), -5);
         }
-        c.due("30: nothing was carried out", x.count(0), 1);
-        c.due("31: a wrong text has no reason", x.reason(0), -5);
     }
 
     private void executeRefused() {
