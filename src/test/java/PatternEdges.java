@@ -143,6 +143,21 @@ final class PatternEdges extends Edges {
             best(y, 1, 49 + 2 * edge, 1);
             due("patterns", y.patterns(1), 1);
         }
+        // The narrowest remnant is narrower than twice the widest edge.
+        x.set(2, 10);
+        x.addRoll(0, 76, 9);
+        order(x, 0, 60, 9);
+        Checks.run(x, "1x0", 0, 4);
+        due(x.keep(0), 1);
+        order(x, 0, 10, 9);
+        x.set(1, 20);
+        noBest(x, 1);
+        due(x.patterns(1), 0);
+        due(Checks.run(x, "1x1", 1, 1), REFUSED);
+        due(x.reason(0), 4);
+        x.set(1, 0);
+        best(x, 1, 0, 0, 1);
+        due(x.patterns(1), 1);
     }
 
     private void wantingOrders(PaperCutter x) {
@@ -158,6 +173,10 @@ final class PatternEdges extends Edges {
         best(x, 0, 46, 0, 1);
         x.remove(1);
         best(x, 0, 6, 2, 0);
+        x.undo();
+        x.undo();
+        noBest(x, 0);
+        due(x.patterns(0), 0);
     }
 
     private void room(PaperCutter x) {
@@ -205,6 +224,18 @@ final class PatternEdges extends Edges {
         best(x, 1, 6, 1, 0);
         x.addRoll(0, 107, 9);
         best(x, 2, 7, 0, 5);
+        PaperCutter y = new PaperCutter();
+        y.addRoll(0, 106, 9);
+        order(y, 0, 90, 9);
+        order(y, 0, 40, 9);
+        order(y, 0, 20, 9);
+        best(y, 0, 6, 0, 2, 1);
+        PaperCutter z = new PaperCutter();
+        z.addRoll(0, 106, 9);
+        order(z, 0, 60, 9);
+        order(z, 0, 10, 1);
+        order(z, 0, 98, 1);
+        best(z, 0, 8, 0, 0, 1);
     }
 
     private void fewestStrips(PaperCutter x) {
@@ -266,6 +297,7 @@ final class PatternEdges extends Edges {
             order(x, 0, 10, 1);
         }
         each(what -> x.best(0, what), 0, 8, 7, 1, BAD, BAD, BAD, BAD, BAD, BAD, 1, 1, 1, 1, 1, 1, 1, 1, BAD, BAD);
+        due(x.again(0), 0);
         PaperCutter y = new PaperCutter();
         y.addRoll(0, 106, 9);
         order(y, 0, 50, 9);

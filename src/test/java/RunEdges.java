@@ -528,10 +528,13 @@ final class RunEdges extends Edges {
         x.addRoll(0, 57, 1);
         x.addRoll(0, 107, 1);
         x.addRoll(0, 57, 1);
+        x.addRoll(0, 109, 1);
+        x.addRoll(0, 56, 1);
+        x.addRoll(0, 108, 1);
         order(x, 0, 50, 99);
-        due(x.cutAll(), 7);
-        int[] rolls = {4, 6, 3, 5, 2, 1, 0};
-        for (int run = 0; run < 7; run++) {
+        due(x.cutAll(), 10);
+        int[] rolls = {8, 4, 6, 3, 5, 2, 9, 1, 7, 0};
+        for (int run = 0; run < 10; run++) {
             due("roll of run " + run, x.made(run, 0), rolls[run]);
         }
     }
