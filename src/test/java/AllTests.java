@@ -1,7 +1,7 @@
 import java.nio.file.Files;
 import java.nio.file.Path;
 
-/** Runs every test; takes the paths of the class's source and of the document, and the number of long runs. */
+/** Runs every test; takes the paths of the class's source, the document and README.md, and the number of long runs. */
 public final class AllTests {
     public static void main(String[] args) throws Exception {
         Checks checks = new Checks();
@@ -14,7 +14,8 @@ public final class AllTests {
         Sentences sentences = new Sentences();
         Edges.all(checks, sentences);
         compare(checks, sentences, Path.of(args[1]));
-        ModelTests.all(checks, args.length > 2 ? Integer.parseInt(args[2]) : 500);
+        ReadmeTests.all(checks, Path.of(args[2]));
+        ModelTests.all(checks, args.length > 3 ? Integer.parseInt(args[3]) : 500);
         if (!checks.report()) {
             System.exit(1);
         }

@@ -1,3 +1,4 @@
+import java.lang.reflect.Constructor;
 import java.lang.reflect.Field;
 import java.lang.reflect.Method;
 import java.lang.reflect.Modifier;
@@ -62,24 +63,43 @@ final class FaceTests {
         c.due("constructors", PaperCutter.class.getDeclaredConstructors().length, 1);
     }
 
-    private void classesInside() throws ClassNotFoundException {
-        TreeSet<String> names = new TreeSet<>();
-        for (String method : FACE) {
-            names.add(method.substring(0, method.indexOf('(')));
-        }
+    private void classesInside() {
         Class<?>[] inside = PaperCutter.class.getDeclaredClasses();
         c.holds("at most some twelve classes", inside.length < 12);
+        shape(PaperCutter.class);
         for (Class<?> one : inside) {
             c.holds(one + " is static", Modifier.isStatic(one.getModifiers()));
-            int fields = 0;
+            c.holds(one + " is hidden", (one.getModifiers() & (Modifier.PUBLIC | Modifier.PROTECTED)) == 0);
+            shape(one);
             for (Field f : one.getDeclaredFields()) {
-                fields += Modifier.isStatic(f.getModifiers()) ? 0 : 1;
+                c.holds(f + " is private", f.isSynthetic() || Modifier.isPrivate(f.getModifiers()));
             }
-            c.holds(one + " has at most twenty fields", fields <= 20);
+            for (Constructor<?> made : one.getDeclaredConstructors()) {
+                c.holds(made + " is private", made.isSynthetic() || Modifier.isPrivate(made.getModifiers()));
+            }
             for (Method m : one.getDeclaredMethods()) {
-                c.holds(m + " has at most seven parameters", m.getParameterCount() <= 7);
-                c.holds(m + " bears no public name", !names.contains(m.getName()));
+                c.holds(m + " is private", m.isSynthetic() || Modifier.isPrivate(m.getModifiers()));
             }
+        }
+    }
+
+    /** What every class of the file keeps to. */
+    private void shape(Class<?> one) {
+        TreeSet<String> open = new TreeSet<>();
+        for (String method : FACE) {
+            open.add(method.substring(0, method.indexOf('(')));
+        }
+        int fields = 0;
+        for (Field f : one.getDeclaredFields()) {
+            boolean isStatic = Modifier.isStatic(f.getModifiers());
+            c.holds(f + " is final if it is static", !isStatic || Modifier.isFinal(f.getModifiers()));
+            fields += isStatic ? 0 : 1;
+        }
+        c.holds(one + " has at most twenty fields", fields <= 20);
+        for (Method m : one.getDeclaredMethods()) {
+            c.holds(m + " has at most seven parameters", m.getParameterCount() <= 7);
+            boolean isOpen = Modifier.isPublic(m.getModifiers());
+            c.holds(m + " bears no public name", isOpen || !open.contains(m.getName()));
         }
     }
 
